@@ -23,13 +23,13 @@ public final class Promise04Test {
         due.same("check of a cycle", cyclic.check(), LockLevelTypes.REJECT_CYCLE);
         due.same("emit after a cycle", cyclic.emit(0, 0, 0), LockLevelTypes.ERR_SEALED);
         due.no("setEntry after a cycle", cyclic.setEntry(0, 0));
-        LockLevelTypes tooLong = tooLong("N N C5");
+        LockLevelTypes tooLong = withLong("N N C5");
         due.same("check of a long run", tooLong.check(), LockLevelTypes.REJECT_LONG);
         due.same("emit after a long run", tooLong.emit(0, 0, 0), LockLevelTypes.ERR_SEALED);
         due.no("setEntry after a long run", tooLong.setEntry(0, 0));
     }
 
-    private static LockLevelTypes tooLong(String... procs) {
+    private static LockLevelTypes withLong(String... procs) {
         LockLevelTypes x = Programs.make(4, procs.length, procs);
         Programs.loadLong(x);
         return x;
@@ -91,14 +91,13 @@ public final class Promise04Test {
     }
 
     private static void longComesFirst() {
-        LockLevelTypes fits = tooLong("N C5");
-        due.same("check of 513", fits.check(), LockLevelTypes.REJECT_LONG);
-        due.same("check of 512", tooLong("C5").check(), LockLevelTypes.ACCEPT);
-        due.same("check of 514", tooLong("N N C5").check(), LockLevelTypes.REJECT_LONG);
-        due.same("long with a cycle before it", tooLong("A0 A1 R0 A0 C5").check(), LockLevelTypes.REJECT_LONG);
-        due.same("long in thread 1, cycle in thread 0", tooLong("A0 A1 R0 A0", "N C5").check(), LockLevelTypes.REJECT_LONG);
-        due.same("long in thread 0, cycle in thread 1", tooLong("N C5", "A0 A1 R0 A0").check(), LockLevelTypes.REJECT_LONG);
-        due.same("512 with a cycle", tooLong("C5", "A0 A1 R0 A0").check(), LockLevelTypes.REJECT_CYCLE);
+        due.same("check of 513", withLong("N C5").check(), LockLevelTypes.REJECT_LONG);
+        due.same("check of 512", withLong("C5").check(), LockLevelTypes.ACCEPT);
+        due.same("check of 514", withLong("N N C5").check(), LockLevelTypes.REJECT_LONG);
+        due.same("long with a cycle before it", withLong("A0 A1 R0 A0 C5").check(), LockLevelTypes.REJECT_LONG);
+        due.same("long in thread 1, cycle in thread 0", withLong("A0 A1 R0 A0", "N C5").check(), LockLevelTypes.REJECT_LONG);
+        due.same("long in thread 0, cycle in thread 1", withLong("N C5", "A0 A1 R0 A0").check(), LockLevelTypes.REJECT_LONG);
+        due.same("512 with a cycle", withLong("C5", "A0 A1 R0 A0").check(), LockLevelTypes.REJECT_CYCLE);
         LockLevelTypes unused = Programs.make(4, 1, "N", "N N C5");
         Programs.loadLong(unused);
         due.same("long where no thread starts", unused.check(), LockLevelTypes.ACCEPT);
@@ -111,7 +110,7 @@ public final class Promise04Test {
         LockLevelTypes x = Programs.sealed(3, 3, "A0 A1 A1 C3", "A2 N", "", "N");
         String free = "-1x0 -1x0 -1x0 -1x0 -1x0 -1x0 -1x0 -1x0 -1x0 -1x0 ";
         due.same("machine after check", Programs.machine(x), free + "-1:-1>-1 0:0>-1 1:0>-1 -1:-1>-1 -1:-1>-1 -1:-1>-1 false");
-        LockLevelTypes cut = tooLong("A0 A1 C5", "A0");
+        LockLevelTypes cut = withLong("A0 A1 C5", "A0");
         cut.check();
         due.same("machine after a long run", Programs.machine(cut), free + "-1:-1>-1 0:0>-1 1:0>-1 -1:-1>-1 -1:-1>-1 -1:-1>-1 false");
     }
@@ -136,7 +135,7 @@ public final class Promise04Test {
         LockLevelTypes[] objects = {
             Programs.make(2, 2, "A0 A1 R1 R0", "A0 A1 R1 R0"),
             Programs.make(2, 2, "A0 A1 R1 R0", "A1 A0 R0 R1"),
-            tooLong("A0 A1 N C5", "A1 A0 R0 R1")
+            withLong("A0 A1 N C5", "A1 A0 R0 R1")
         };
         for (int want = 0; want < objects.length; want++) {
             LockLevelTypes x = objects[want];

@@ -61,7 +61,7 @@ public final class Promise12Test {
 
     private static void deepCounts() {
         LockLevelTypes x = Programs.sealed(2, 2, "C1 C1 C1 C1 C1 C1 C1 C1", "C2 C2 C2 C2 C2 C2 C2 C2", "A1 A1 A1 A1 A1 A1 A1 A1");
-        due.same("steps", x.run(0, 584) , 584);
+        due.same("steps", x.run(0, 584), 584);
         held(x, 1, 0, 512);
         held(x, 0, -1, 0);
     }
