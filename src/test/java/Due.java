@@ -31,10 +31,15 @@ final class Due {
         return wrong;
     }
 
+    /** A test that asks nothing shows nothing. */
+    boolean holds() {
+        return asked > 0 && wrong == 0;
+    }
+
     /** Ends the program with exit code 1 if an answer was wrong, or if nothing was asked at all. */
     void end() {
         System.out.println(asked + " answers, " + wrong + " not as due");
-        if (wrong != 0 || asked == 0) {
+        if (!holds()) {
             System.exit(1);
         }
     }

@@ -46,6 +46,13 @@ final class Programs {
         load(x, 5, "C6 C6 C6 C6 C6 C6 C6");
     }
 
+    /** As make, with the procedures of loadLong behind it. */
+    static LockLevelTypes makeLong(int locks, int threads, String... procs) {
+        LockLevelTypes x = make(locks, threads, procs);
+        loadLong(x);
+        return x;
+    }
+
     /** Steps the threads that the digits name, one by one; the answers are the digits given back. */
     static String steps(LockLevelTypes x, String threads) {
         StringBuilder answers = new StringBuilder();
@@ -67,8 +74,8 @@ final class Programs {
         return s.append(x.deadlocked()).toString();
     }
 
-    /** What check found out: edges, levels, lowest lock on a cycle, solo lengths. */
-    static String findings(LockLevelTypes x) {
+    /** The order graph, as a row of words such as 0->1. */
+    static String edges(LockLevelTypes x) {
         StringBuilder s = new StringBuilder();
         for (int a = -1; a <= 8; a++) {
             for (int b = -1; b <= 8; b++) {
@@ -77,7 +84,12 @@ final class Programs {
                 }
             }
         }
-        s.append("levels");
+        return s.toString();
+    }
+
+    /** What check found out: edges, levels, lowest lock on a cycle, solo lengths. */
+    static String findings(LockLevelTypes x) {
+        StringBuilder s = new StringBuilder(edges(x)).append("levels");
         for (int i = -1; i <= 8; i++) {
             s.append(' ').append(x.level(i));
         }

@@ -12,8 +12,7 @@ public final class Promise08Test {
     }
 
     private static void edges(String what, LockLevelTypes x, String want) {
-        String findings = Programs.findings(x);
-        due.same(what, findings.substring(0, findings.indexOf("levels")), want);
+        due.same(what, Programs.edges(x), want);
     }
 
     private static void edgesOnly() {
