@@ -51,7 +51,7 @@ public final class Boundary02Test {
     }
 
     private static LockLevelTypes full() {
-        return Programs.make(2, 1, "N N N N N N N N", "N N N N N N N N", "N N N N N N N N", "N N N N N N N", "N");
+        return Programs.make(2, 4, "A0 A1 A0 R0 R0 R1 C4 N", "A1 N N R1 A0 R0 A1 A0", "R1 A1 R1 N A1 C4 N N", "A0 N N N N N R0", "C7");
     }
 
     private static void orderOfTheTests(Due due) {
@@ -146,16 +146,15 @@ public final class Boundary02Test {
     /** The stored argument cannot be seen: a NOP must behave the same whatever it was given. */
     private static void nopArgumentIsForgotten(Due due) {
         for (int arg : Programs.NUMBERS) {
-            LockLevelTypes x = new LockLevelTypes(8, 2);
-            LockLevelTypes plain = new LockLevelTypes(8, 2);
-            for (LockLevelTypes one : new LockLevelTypes[] {x, plain}) {
-                Programs.load(one, 0, "A0 A1 A2 A3 A4 A5 A6 A7");
-                Programs.load(one, 1, "A7 R7");
-                one.emit(1, 0, one == x ? arg : 0);
-                one.emit(1, 0, one == x ? arg : 0);
-            }
-            States.alike(due, "NOP with " + arg, x, plain);
+            States.alike(due, "NOP with " + arg, () -> nopsWith(arg), () -> nopsWith(0));
         }
+    }
+
+    private static LockLevelTypes nopsWith(int arg) {
+        LockLevelTypes x = Programs.make(8, 2, "A0 A1 A2 A3 A4 A5 A6 A7", "A7 R7");
+        x.emit(1, 0, arg);
+        x.emit(1, 0, arg);
+        return x;
     }
 
     private static void callInSeven(Due due) {
@@ -219,16 +218,24 @@ public final class Boundary02Test {
     }
 
     private static void refusedForWantOfRoom(Due due) {
-        LockLevelTypes program = full();
-        for (int proc = 0; proc <= 7; proc++) {
-            due.same("emit in " + proc + " of a full program", program.emit(proc, 1, 1), FULL);
-        }
-        States.alike(due, "full program", program, full());
-        LockLevelTypes procedure = Programs.make(2, 1, "A0 A0 A0 A0 A0 A0 A0 A0");
-        for (int i = 0; i < 40; i++) {
-            due.same("emit in a full procedure", procedure.emit(0, 2, 0), FULL);
-        }
-        States.alike(due, "full procedure", procedure, Programs.make(2, 1, "A0 A0 A0 A0 A0 A0 A0 A0"));
+        States.alike(due, "full program", () -> {
+            LockLevelTypes x = full();
+            for (int proc = 0; proc <= 7; proc++) {
+                due.same("emit in " + proc + " of a full program", x.emit(proc, 2, 1), FULL);
+            }
+            return x;
+        }, Boundary02Test::full);
+        States.alike(due, "full procedure", () -> {
+            LockLevelTypes x = fullProcedures();
+            for (int i = 0; i < 40; i++) {
+                due.same("emit in a full procedure", x.emit(i % 2, 0, 0), FULL);
+            }
+            return x;
+        }, Boundary02Test::fullProcedures);
+    }
+
+    private static LockLevelTypes fullProcedures() {
+        return Programs.make(2, 2, "A0 A0 A0 R0 R0 R0 A1 A0", "A1 R1 A1 R1 A0 R0 A0 A1");
     }
 
     private static void refusedWhenSealed(Due due) {
@@ -298,21 +305,27 @@ public final class Boundary02Test {
 
     private static void otherProceduresUntouched(Due due) {
         for (int proc = 0; proc <= 7; proc++) {
-            LockLevelTypes x = new LockLevelTypes(2, 1);
-            for (int i = 0; i < 9; i++) {
-                x.emit(proc, 1, 0);
+            LockLevelTypes x = new LockLevelTypes(8, 1);
+            for (int other = 0; other <= 7; other++) {
+                x.emit(other, 1, other);
+            }
+            for (int i = 1; i <= 8; i++) {
+                due.same("emit in " + proc, x.emit(proc, 0, 0), i < 8 ? i : FULL);
             }
             for (int other = 0; other <= 7; other++) {
-                if (other != proc) {
-                    due.same("first in " + other + " beside " + proc, x.emit(other, 0, 0), 0);
-                }
+                due.same("next in " + other + " beside " + proc, x.emit(other, 0, 0), other == proc ? FULL : 1);
             }
         }
-        LockLevelTypes order = Programs.make(2, 2, "A0 R0");
-        Programs.load(order, 1, "N N N N N N N N");
-        order.check();
-        due.same("soloLength(0)", order.soloLength(0), 2);
-        due.same("soloLength(1)", order.soloLength(1), 8);
+        for (int entry = 0; entry <= 7; entry++) {
+            LockLevelTypes x = new LockLevelTypes(8, 1);
+            for (int i = 0; i < 32; i++) {
+                x.emit(i * 3 % 8, 1, i * 3 % 8);
+            }
+            x.setEntry(0, entry);
+            x.check();
+            due.same("instructions in " + entry, x.run(0, 100), 4);
+            due.same("holdCount(" + entry + ")", x.holdCount(entry), 4);
+        }
     }
 
     private static void notSealedByIt(Due due) {

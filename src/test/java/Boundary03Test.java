@@ -43,38 +43,42 @@ public final class Boundary03Test {
     }
 
     private static void refusedWhenSealed(Due due) {
-        for (int proc = -1; proc <= 8; proc++) {
-            int entry = proc;
+        for (int proc : new int[] {-1, 0, 1, 6, 7, 8}) {
             States.changesNothing(due, States.sealed(), x -> {
-                for (int thread : Programs.NUMBERS) {
-                    due.no("setEntry(" + thread + ", " + entry + ") when sealed", x.setEntry(thread, entry));
+                for (int thread = -1; thread <= 4; thread++) {
+                    due.no("setEntry(" + thread + ", " + proc + ") when sealed", x.setEntry(thread, proc));
                 }
             });
         }
     }
 
     private static void badThread(Due due) {
-        for (int threads = 1; threads <= 4; threads++) {
-            LockLevelTypes x = staircase(threads);
-            for (int thread : Programs.NUMBERS) {
-                if (thread < 0 || thread >= threads) {
-                    due.no("setEntry(" + thread + ", 4) of " + threads, x.setEntry(thread, 4));
+        for (int count = 1; count <= 4; count++) {
+            int threads = count;
+            States.alike(due, "refused threads of " + threads, () -> {
+                LockLevelTypes x = staircase(threads);
+                for (int thread : Programs.NUMBERS) {
+                    if (thread < 0 || thread >= threads) {
+                        due.no("setEntry(" + thread + ", 4) of " + threads, x.setEntry(thread, 4));
+                    }
                 }
-            }
-            States.alike(due, "refused threads of " + threads, x, staircase(threads));
+                return x;
+            }, () -> staircase(threads));
         }
     }
 
     private static void badProcedure(Due due) {
-        LockLevelTypes x = staircase(4);
-        for (int proc : Programs.NUMBERS) {
-            if (proc < 0 || proc > 7) {
-                due.no("setEntry(0, " + proc + ")", x.setEntry(0, proc));
-                due.no("setEntry(3, " + proc + ")", x.setEntry(3, proc));
-                due.no("setEntry(4, " + proc + ")", x.setEntry(4, proc));
+        States.alike(due, "refused procedures", () -> {
+            LockLevelTypes x = staircase(4);
+            for (int proc : Programs.NUMBERS) {
+                if (proc < 0 || proc > 7) {
+                    due.no("setEntry(0, " + proc + ")", x.setEntry(0, proc));
+                    due.no("setEntry(3, " + proc + ")", x.setEntry(3, proc));
+                    due.no("setEntry(4, " + proc + ")", x.setEntry(4, proc));
+                }
             }
-        }
-        States.alike(due, "refused procedures", x, staircase(4));
+            return x;
+        }, () -> staircase(4));
     }
 
     private static void answersTrue(Due due) {

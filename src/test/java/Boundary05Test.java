@@ -1,3 +1,5 @@
+import java.util.function.Supplier;
+
 /** The boundary cases of promise 5, restart, a test for each sentence. */
 public final class Boundary05Test {
     public static void main(String[] args) {
@@ -22,22 +24,31 @@ public final class Boundary05Test {
 
     private static void fromEveryState(Due due) {
         States.sealed().forEach((name, state) -> {
-            LockLevelTypes x = state.get();
-            LockLevelTypes twice = state.get();
-            x.restart();
-            twice.restart();
-            String start = Programs.all(x);
-            twice.run(0xE4E4E4E4, 1024);
-            twice.restart();
-            twice.restart();
-            due.same("all after restarts, " + name, Programs.all(twice), start);
-            due.no("deadlocked, " + name, x.deadlocked());
-            States.alike(due, name, x, twice);
+            Supplier<LockLevelTypes> once = () -> {
+                LockLevelTypes x = state.get();
+                x.restart();
+                return x;
+            };
+            Supplier<LockLevelTypes> again = () -> {
+                LockLevelTypes x = once.get();
+                x.run(0xE4E4E4E4, 1024);
+                x.restart();
+                x.restart();
+                return x;
+            };
+            due.no("deadlocked, " + name, once.get().deadlocked());
+            States.alike(due, name, once, again);
         });
+        LockLevelTypes x = Programs.sealed(2, 3, "A0 A1 R1", "A1 A0 R0", "N C4", "", "N");
+        Programs.steps(x, "0122");
+        due.yes("deadlocked before", x.deadlocked());
+        x.restart();
+        due.same("machine after restart", Programs.machine(x),
+            "-1x0 ".repeat(10) + "-1:-1>-1 0:0>-1 1:0>-1 2:0>-1 -1:-1>-1 -1:-1>-1 false");
     }
 
     private static void locksFree(Due due) {
-        LockLevelTypes x = Programs.sealed(8, 4, "A0 A0 A0", "A1 A2 A3", "A4 A4 A5", "A6 A7 R7");
+        LockLevelTypes x = Programs.sealed(8, 4, "A0 A0 A0", "A1 A2 A3", "A4 A4 A5", "A6 A7 A7");
         x.run(0xE4E4E4E4, 64);
         due.same("holdCount(0) before", x.holdCount(0), 3);
         x.restart();

@@ -95,33 +95,45 @@ public final class Boundary06Test {
                 }
             }
         });
-        LockLevelTypes x = Programs.sealed(2, 1, "N N", "A0", "A0", "A0");
-        due.same("steps past the only thread", Programs.steps(x, "123"), "333");
-        States.alike(due, "one thread", x, Programs.sealed(2, 1, "N N", "A0", "A0", "A0"));
+        States.alike(due, "one thread", () -> {
+            LockLevelTypes x = Programs.sealed(2, 1, "N N", "A0", "A0", "A0");
+            due.same("steps past the only thread", Programs.steps(x, "123"), "333");
+            return x;
+        }, () -> Programs.sealed(2, 1, "N N", "A0", "A0", "A0"));
     }
 
     private static void doneChangesNothing(Due due) {
         for (String text : new String[] {"", "A0", "A0 A0 R0", "C4", "C5 C4 C5"}) {
-            LockLevelTypes x = Programs.sealed(2, 2, text, "A0 N", "", "", "A1", "C7");
-            LockLevelTypes twin = Programs.sealed(2, 2, text, "A0 N", "", "", "A1", "C7");
-            x.run(0, 20);
-            twin.run(0, 20);
-            for (int i = 0; i < 20; i++) {
-                due.same("step past " + text, x.step(0), LockLevelTypes.STEP_DONE);
-            }
-            States.alike(due, "done with " + text, x, twin);
+            States.alike(due, "done with " + text, () -> {
+                LockLevelTypes x = doneWith(text);
+                for (int i = 0; i < 20; i++) {
+                    due.same("step past " + text, x.step(0), LockLevelTypes.STEP_DONE);
+                }
+                return x;
+            }, () -> doneWith(text));
         }
     }
 
+    private static LockLevelTypes doneWith(String text) {
+        LockLevelTypes x = Programs.sealed(2, 2, text, "A0 N", "", "", "A1", "C7");
+        x.run(0, x.soloLength(0));
+        return x;
+    }
+
     private static void blockedChangesNothing(Due due) {
+        States.alike(due, "blocked", () -> {
+            LockLevelTypes x = blockedInACall();
+            for (int i = 0; i < 20; i++) {
+                due.same("step at another's lock", x.step(1), LockLevelTypes.STEP_BLOCKED);
+            }
+            return x;
+        }, Boundary06Test::blockedInACall);
+    }
+
+    private static LockLevelTypes blockedInACall() {
         LockLevelTypes x = Programs.sealed(2, 2, "A0 A0 R0 R0", "A1 C2 N", "A0 R0");
-        LockLevelTypes twin = Programs.sealed(2, 2, "A0 A0 R0 R0", "A1 C2 N", "A0 R0");
         Programs.steps(x, "0011");
-        Programs.steps(twin, "0011");
-        for (int i = 0; i < 20; i++) {
-            due.same("step at another's lock", x.step(1), LockLevelTypes.STEP_BLOCKED);
-        }
-        States.alike(due, "blocked", x, twin);
+        return x;
     }
 
     private static void oneStepThenSettle(Due due) {
@@ -154,38 +166,50 @@ public final class Boundary06Test {
         return s.toString();
     }
 
+    /** Thread 0 holds every lock but one, which thread 1 takes and gives up. */
     private static void onlyTheNamedLock(Due due) {
         for (int lock = 0; lock < 8; lock++) {
-            for (String op : new String[] {"N", "A", "R", "C"}) {
-                LockLevelTypes x = new LockLevelTypes(8, 2);
-                Programs.load(x, 0, "A0 A1 A2 A3 A4 A5 A6 A7");
-                Programs.load(x, 1, "C2");
-                Programs.load(x, 2, op.equals("N") ? "N" : op.equals("C") ? "C3" : op + lock);
-                Programs.load(x, 3, "N");
-                x.check();
-                Programs.steps(x, "0".repeat(lock) + "1");
-                int named = op.equals("N") || op.equals("C") ? -1 : lock;
-                String before = locks(x, named);
-                due.same("step of " + op + lock, x.step(1), LockLevelTypes.STEP_OK);
-                due.same("other locks after " + op + lock, locks(x, named), before);
+            LockLevelTypes x = new LockLevelTypes(8, 2);
+            for (int other = 0; other < 8; other++) {
+                if (other != lock) {
+                    x.emit(0, LockLevelTypes.OP_ACQ, other);
+                }
+            }
+            Programs.load(x, 1, "N A" + lock + " A" + lock + " R" + lock + " R" + lock + " R" + (lock + 1) % 8 + " C2");
+            Programs.load(x, 2, "N");
+            x.check();
+            x.run(0, 7);
+            String others = locks(x, lock);
+            int[] counts = {0, 1, 2, 1, 0, 0, 0, 0};
+            for (int i = 0; i < counts.length; i++) {
+                due.same("step " + i, x.step(1), LockLevelTypes.STEP_OK);
+                due.same("other locks than " + lock + " after step " + i, locks(x, lock), others);
+                due.same("holdCount(" + lock + ") after step " + i, x.holdCount(lock), counts[i]);
+                due.same("holder(" + lock + ") after step " + i, x.holder(lock), counts[i] > 0 ? 1 : -1);
             }
         }
     }
 
+    private static String walk(LockLevelTypes x, int thread) {
+        StringBuilder s = new StringBuilder();
+        for (int i = 0; i < 12; i++) {
+            s.append(x.frameProc(thread)).append(':').append(x.framePc(thread)).append(' ').append(x.step(thread)).append(' ');
+        }
+        return s.toString();
+    }
+
+    /** Each thread has a lock of its own, so that a step of one leaves all ways of the others open. */
     private static void othersUntouched(Due due) {
+        String[] procs = {"N A0 C4 R0 N", "N A1 C5 R1 N", "N A2 C4 R2 N", "N A3 C5 R3 N", "N C6", "C6 N", "N"};
         for (int stepped = 0; stepped < 4; stepped++) {
-            LockLevelTypes x = Programs.sealed(4, 4, "A0 C4 R0 N", "A1 C4 R1 N", "A2 C5 R2", "C5 C4", "N N", "R0 R1 R2");
-            Programs.steps(x, "01230123");
-            String[] before = new String[4];
-            for (int thread = 0; thread < 4; thread++) {
-                before[thread] = x.frameProc(thread) + ":" + x.framePc(thread);
-            }
-            for (int i = 0; i < 8; i++) {
-                x.step(stepped);
-                for (int thread = 0; thread < 4; thread++) {
-                    if (thread != stepped) {
-                        due.same("frame of " + thread, x.frameProc(thread) + ":" + x.framePc(thread), before[thread]);
-                    }
+            for (int other = 0; other < 4; other++) {
+                for (int before = 0; before <= 8 && other != stepped; before++) {
+                    LockLevelTypes x = Programs.sealed(4, 4, procs);
+                    LockLevelTypes twin = Programs.sealed(4, 4, procs);
+                    Programs.steps(x, ("" + other).repeat(before));
+                    Programs.steps(twin, ("" + other).repeat(before));
+                    due.same("steps of " + stepped, Programs.steps(x, ("" + stepped).repeat(9)), "000000002");
+                    due.same("the way of " + other + " after " + before + " steps", walk(x, other), walk(twin, other));
                 }
             }
         }

@@ -57,9 +57,13 @@ public final class Boundary07Test {
     }
 
     private static void notSealed(Due due) {
-        for (int script : SCRIPTS) {
-            States.answersAlways(due, States.notSealed(), (x, steps) -> x.run(script, steps), -1);
-        }
+        States.answersAlways(due, States.notSealed(), (x, steps) -> {
+            int others = 0;
+            for (int script : SCRIPTS) {
+                others += x.run(script, steps) == -1 ? 0 : 1;
+            }
+            return others;
+        }, 0);
     }
 
     private static int stepsLeft(LockLevelTypes x) {
@@ -219,7 +223,9 @@ public final class Boundary07Test {
                     }
                     String call = "run(" + script + ", " + steps + ") of " + threads;
                     due.same(call, x.run(script, steps), want);
-                    States.alike(due, call, x, single);
+                    due.same("all after " + call, Programs.all(x), Programs.all(single));
+                    String rest = "0123".repeat(12);
+                    due.same("steps after " + call, Programs.steps(x, rest), Programs.steps(single, rest));
                 }
             }
         }

@@ -13,10 +13,7 @@ public final class Boundary08Test {
     }
 
     private static void notSealed(Due due) {
-        for (int a = -1; a <= 8; a++) {
-            int first = a;
-            States.answersAlways(due, States.notSealed(), (x, b) -> x.order(first, b) ? 1 : 0, 0);
-        }
+        States.answersAlways(due, States.notSealed(), Boundary08Test::pairsWith, 0);
         LockLevelTypes x = Programs.make(2, 1, "A0 A1");
         due.no("order(0, 1) before check", x.order(0, 1));
         x.check();
@@ -78,9 +75,15 @@ public final class Boundary08Test {
     }
 
     private static void changesNothing(Due due) {
-        for (int a = -1; a <= 8; a++) {
-            int first = a;
-            States.askingChangesNothing(due, (x, b) -> x.order(first, b) ? 1 : 0);
+        States.askingChangesNothing(due, Boundary08Test::pairsWith);
+    }
+
+    /** How many pairs with that number, first or second, are answered with true. */
+    private static int pairsWith(LockLevelTypes x, int n) {
+        int pairs = 0;
+        for (int m : Programs.NUMBERS) {
+            pairs += (x.order(n, m) ? 1 : 0) + (x.order(m, n) ? 1 : 0);
         }
+        return pairs;
     }
 }

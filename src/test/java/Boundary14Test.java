@@ -140,6 +140,10 @@ public final class Boundary14Test {
             }
             waits(due, "in a ring of " + ring.length, x, true, want);
         }
+        LockLevelTypes tooLong = Programs.makeLong(2, 2, "A0 A1 C5", "A1 A0");
+        due.same("check of a long run", tooLong.check(), LockLevelTypes.REJECT_LONG);
+        Programs.steps(tooLong, "01");
+        waits(due, "under a long run", tooLong, true, 1, 0);
     }
 
     private static void waitsBesideACycle(Due due) {
@@ -162,6 +166,9 @@ public final class Boundary14Test {
         LockLevelTypes chain = Programs.sealed(4, 4, "A0 N", "A1 A0", "A2 A1", "A3 A2");
         Programs.steps(chain, "0123");
         waits(due, "in a chain of four", chain, false, -1, 0, 1, 2);
+        LockLevelTypes upward = Programs.sealed(4, 4, "A0 A1", "A1 A2", "A2 A3", "A3 N");
+        Programs.steps(upward, "0123");
+        waits(due, "in a chain of four upward", upward, false, 1, 2, 3, -1);
         LockLevelTypes star = Programs.sealed(4, 4, "A3", "A3", "A3", "A3 N");
         Programs.steps(star, "3");
         waits(due, "all for one", star, false, 3, 3, 3, -1);

@@ -267,6 +267,10 @@ public final class BoundaryExecutionTest {
         due.same("run of six", x.run(0, 6), 6);
         frame(due, "one left", x, 0, "0:2");
         due.same("run to the end", x.run(0, 100), 1);
+        LockLevelTypes nested = Programs.sealed(2, 1, "C1 N", "C2", "C3", "N");
+        due.same("soloLength: no step for the return from three", nested.soloLength(0), 5);
+        due.same("steps to the return from three", Programs.steps(nested, "0000"), "0000");
+        frame(due, "back from three", nested, 0, "0:1");
     }
 
     private static void cannotExecute(Due due) {

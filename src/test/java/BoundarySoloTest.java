@@ -39,6 +39,8 @@ public final class BoundarySoloTest {
         for (int thread = 0; thread < 4; thread++) {
             due.same("soloLength(" + thread + ")", x.soloLength(thread), thread == 2 ? 4 : 2);
         }
+        LockLevelTypes left = Programs.sealed(3, 3, "A0 A0 A1", "A0 R0 A1 R1 A2", "A1 R1 A0 R0 A2");
+        due.same("edges where locks left held are taken and given up", Programs.edges(left), "0->1 ");
         LockLevelTypes shared = Programs.make(2, 2, "A1 A0");
         shared.setEntry(1, 0);
         shared.check();

@@ -1,11 +1,13 @@
 import java.util.LinkedHashMap;
 import java.util.Map;
 import java.util.function.Consumer;
+import java.util.function.Function;
 import java.util.function.Supplier;
 
 /** Objects in every kind of state, made afresh each time: one is called, and a twin left alone. */
 final class States {
     private static final String SCHEDULE = "0123".repeat(10) + "3210".repeat(4) + "00000000111111112222222233333333";
+    private static final Map<String, Function<LockLevelTypes, String>> LOOKS = looks();
 
     private States() {
     }
@@ -20,8 +22,8 @@ final class States {
         states.put("empty and smallest", () -> new LockLevelTypes(2, 1));
         states.put("empty and largest", () -> new LockLevelTypes(8, 4));
         states.put("written", States::written);
-        states.put("with a cycle", () -> Programs.make(2, 2, "A0 A1 R1 R0", "A1 A0 R0 R1"));
-        states.put("with a long run", () -> Programs.makeLong(2, 2, "A0 N C5", "A0 A1"));
+        states.put("with a cycle", States::cyclic);
+        states.put("with a long run", States::tooLong);
         states.put("with a full procedure", () -> Programs.make(2, 2, "A0 A1 N N R1 R0 N N", "A0 R0"));
         states.put("full", () -> Programs.make(8, 4, "A0 A1 A2 A3 A4 A5 A6 A7", "A0 A1 A2 A3 A4 A5 A6 A7",
             "N N N N N N N N", "A7 R7 A7 R7 A7 R7 A7 R7"));
@@ -76,50 +78,97 @@ final class States {
             for (int argument : Programs.NUMBERS) {
                 due.same("with " + argument + ", " + name, question.ask(x, argument), want);
             }
-            alike(due, name, x, state.get());
         });
-    }
-
-    static void changesNothing(Due due, Map<String, Supplier<LockLevelTypes>> states, Consumer<LockLevelTypes> calls) {
-        states.forEach((name, state) -> {
-            LockLevelTypes x = state.get();
-            calls.accept(x);
-            alike(due, name, x, state.get());
-        });
+        changesNothing(due, states, x -> askAll(x, question));
     }
 
     /** Asks the question with every argument in every state: nothing may change by it. */
     static void askingChangesNothing(Due due, Question question) {
-        Consumer<LockLevelTypes> askAll = x -> {
-            for (int argument : Programs.NUMBERS) {
-                question.ask(x, argument);
+        changesNothing(due, notSealed(), x -> askAll(x, question));
+        changesNothing(due, sealed(), x -> askAll(x, question));
+    }
+
+    private static void askAll(LockLevelTypes x, Question question) {
+        for (int argument : Programs.NUMBERS) {
+            question.ask(x, argument);
+        }
+    }
+
+    static void changesNothing(Due due, Map<String, Supplier<LockLevelTypes>> states, Consumer<LockLevelTypes> calls) {
+        states.forEach((name, state) -> {
+            Supplier<LockLevelTypes> called = () -> {
+                LockLevelTypes x = state.get();
+                calls.accept(x);
+                return x;
+            };
+            alike(due, name, called, state);
+        });
+    }
+
+    /**
+     * What is seen of the two is the same. Each look is at a new pair: if the calls of a look changed
+     * something themselves, they would hide what made the two differ.
+     */
+    static void alike(Due due, String name, Supplier<LockLevelTypes> one, Supplier<LockLevelTypes> twin) {
+        LOOKS.forEach((look, seen) -> due.same(look + ", " + name, seen.apply(one.get()), seen.apply(twin.get())));
+    }
+
+    private static Map<String, Function<LockLevelTypes, String>> looks() {
+        Map<String, Function<LockLevelTypes, String>> looks = new LinkedHashMap<>();
+        questions().forEach((name, question) -> {
+            looks.put(name, question);
+            looks.put("check, " + name, x -> x.check() + " " + question.apply(x));
+        });
+        looks.put("restart", x -> "" + x.restart());
+        looks.put("room", States::room);
+        looks.put("room, all", x -> room(x) + x.check() + Programs.all(x));
+        looks.put("steps", x -> Programs.steps(x, SCHEDULE));
+        looks.put("check, steps", x -> x.check() + Programs.steps(x, SCHEDULE));
+        looks.put("check, restart, steps", x -> "" + x.check() + x.restart() + Programs.steps(x, SCHEDULE));
+        looks.put("check, machine after each step", x -> x.check() + machines(x));
+        looks.put("check, restart, machine after each step", x -> "" + x.check() + x.restart() + machines(x));
+        looks.put("check, run", x -> x.check() + " " + x.run(0xE4E4E4E4, 1024) + " " + x.run(0, 1024) + Programs.all(x));
+        return looks;
+    }
+
+    private static Map<String, Function<LockLevelTypes, String>> questions() {
+        Map<String, Function<LockLevelTypes, String>> questions = new LinkedHashMap<>();
+        for (int i = -1; i <= 8; i++) {
+            int n = i;
+            for (int b = -1; b <= 8; b++) {
+                int m = b;
+                questions.put("order(" + n + ", " + m + ")", x -> "" + x.order(n, m));
             }
-        };
-        changesNothing(due, notSealed(), askAll);
-        changesNothing(due, sealed(), askAll);
+            questions.put("level(" + n + ")", x -> "" + x.level(n));
+            questions.put("holder(" + n + ")", x -> "" + x.holder(n));
+            questions.put("holdCount(" + n + ")", x -> "" + x.holdCount(n));
+        }
+        for (int i = -1; i <= 4; i++) {
+            int n = i;
+            questions.put("soloLength(" + n + ")", x -> "" + x.soloLength(n));
+            questions.put("frameProc(" + n + ")", x -> "" + x.frameProc(n));
+            questions.put("framePc(" + n + ")", x -> "" + x.framePc(n));
+            questions.put("waitsFor(" + n + ")", x -> "" + x.waitsFor(n));
+        }
+        questions.put("cycleLock", x -> "" + x.cycleLock());
+        questions.put("deadlocked", x -> "" + x.deadlocked());
+        questions.put("all", Programs::all);
+        return questions;
     }
 
-    /** What is seen of the two is the same now, and stays the same under the same calls. */
-    static void alike(Due due, String name, LockLevelTypes x, LockLevelTypes twin) {
-        due.same("all, " + name, Programs.all(x), Programs.all(twin));
+    private static String room(LockLevelTypes x) {
+        StringBuilder s = new StringBuilder();
         for (int i = 0; i < 64; i++) {
-            int proc = 7 - i % 8;
-            due.same("emit in " + proc + ", " + name, x.emit(proc, 0, 0), twin.emit(proc, 0, 0));
+            s.append(x.emit(7 - i % 8, 0, 0)).append(' ');
         }
-        due.same("check, " + name, x.check(), twin.check());
-        due.same("findings, " + name, Programs.findings(x), Programs.findings(twin));
-        stepsAlike(due, name, x, twin);
-        due.same("restart, " + name, x.restart() ? 1 : 0, twin.restart() ? 1 : 0);
-        stepsAlike(due, name + ", restarted", x, twin);
+        return s.toString();
     }
 
-    /** Only the top frame of a thread can be seen: the frames below it show when the thread goes on. */
-    private static void stepsAlike(Due due, String name, LockLevelTypes x, LockLevelTypes twin) {
-        due.same("machine, " + name, Programs.machine(x), Programs.machine(twin));
-        for (int i = 0; i < SCHEDULE.length(); i++) {
-            int thread = SCHEDULE.charAt(i) - '0';
-            due.same("step(" + thread + "), " + name, x.step(thread), twin.step(thread));
-            due.same("machine after step " + i + ", " + name, Programs.machine(x), Programs.machine(twin));
+    private static String machines(LockLevelTypes x) {
+        StringBuilder s = new StringBuilder();
+        for (char thread : SCHEDULE.toCharArray()) {
+            s.append(x.step(thread - '0')).append(' ').append(Programs.machine(x)).append('\n');
         }
+        return s.toString();
     }
 }
