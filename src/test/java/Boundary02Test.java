@@ -51,7 +51,8 @@ public final class Boundary02Test {
     }
 
     private static LockLevelTypes full() {
-        return Programs.make(2, 4, "A0 A1 A0 R0 R0 R1 C4 N", "A1 N N R1 A0 R0 A1 A0", "R1 A1 R1 N A1 C4 N N", "A0 N N N N N R0", "C7");
+        return Programs.make(2, 4, "A0 A1 A0 R0 R0 R1 C4 N", "A1 N N R1 A0 R0 A1 A0", "R1 A1 R1 N A1 C4 N N",
+            "A0 N N N N N R0", "C7");
     }
 
     private static void orderOfTheTests(Due due) {
@@ -258,7 +259,7 @@ public final class Boundary02Test {
         for (int i = 0; i < 8; i++) {
             due.same("framePc", x.framePc(0), i);
             x.step(0);
-            due.same("locks after position " + i, x.holder(0) + "x" + x.holdCount(0) + " " + x.holder(1) + "x" + x.holdCount(1), locks[i]);
+            due.same("locks after position " + i, Programs.held(x, 0) + " " + Programs.held(x, 1), locks[i]);
         }
     }
 

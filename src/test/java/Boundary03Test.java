@@ -6,7 +6,8 @@ public final class Boundary03Test {
 
     static void list(Sentences s) {
         s.says("`setEntry(thread, proc)` sets the entry procedure of `thread` to `proc`", Boundary03Test::sets);
-        s.says("It is refused, answering false and changing nothing, when the object is sealed", Boundary03Test::refusedWhenSealed);
+        s.says("It is refused, answering false and changing nothing, when the object is sealed",
+            Boundary03Test::refusedWhenSealed);
         s.says("when `thread` is not in 0..threadCount-1", Boundary03Test::badThread);
         s.says("or when `proc` is not in 0..7", Boundary03Test::badProcedure);
         s.says("Otherwise it answers true", Boundary03Test::answersTrue);
@@ -126,7 +127,8 @@ public final class Boundary03Test {
         }
         startsIn(due, "in one procedure", x, 5, 5, 5, 5);
         due.same("steps of all in one procedure", Programs.steps(x, "2013222"), "0111002");
-        due.same("each has a pc of its own", x.framePc(0) + " " + x.framePc(1) + " " + x.framePc(2) + " " + x.framePc(3), "0 0 -1 0");
+        due.same("each has a pc of its own",
+            x.framePc(0) + " " + x.framePc(1) + " " + x.framePc(2) + " " + x.framePc(3), "0 0 -1 0");
         due.same("soloLength of each", x.soloLength(0) + x.soloLength(1) + x.soloLength(2) + x.soloLength(3), 12);
     }
 

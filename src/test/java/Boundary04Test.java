@@ -5,7 +5,8 @@ public final class Boundary04Test {
     }
 
     static void list(Sentences s) {
-        s.says("The first call of `check()` seals the program: from then on `emit` answers `ERR_SEALED`", Boundary04Test::emitIsRefused);
+        s.says("The first call of `check()` seals the program: from then on `emit` answers `ERR_SEALED`",
+            Boundary04Test::emitIsRefused);
         s.says("and `setEntry` false", Boundary04Test::setEntryIsRefused);
         s.says("It then performs the solo runs of every thread t < threadCount", Boundary04Test::runsEveryThread);
         s.says("builds the order graph, decides the verdict and, under ACCEPT, the levels", Boundary04Test::findsAll);
@@ -13,7 +14,8 @@ public final class Boundary04Test {
         s.says("answers the verdict (`ACCEPT`, `REJECT_CYCLE` or `REJECT_LONG`)", Boundary04Test::eachVerdict);
         s.says("The solo runs leave no trace on the machine", Boundary04Test::noTrace);
         s.says("Every later call answers the same verdict", Boundary04Test::sameVerdict);
-        s.says("and changes nothing: neither the graph, nor the verdict, nor the machine state", Boundary04Test::laterCallsChangeNothing);
+        s.says("and changes nothing: neither the graph, nor the verdict, nor the machine state",
+            Boundary04Test::laterCallsChangeNothing);
     }
 
     private static LockLevelTypes[] ofEachVerdict() {
@@ -55,10 +57,9 @@ public final class Boundary04Test {
             LockLevelTypes x = Programs.sealed(4, threads, "A0 R0", "A1 A0 R0", "A2 A1 R1", "A3 A2 R2 N");
             int[] lengths = {2, 3, 3, 4};
             for (int thread = 0; thread < 4; thread++) {
-                due.same("soloLength(" + thread + ") of " + threads, x.soloLength(thread), thread < threads ? lengths[thread] : -1);
-                if (thread > 0) {
-                    due.same("edge of " + thread + " of " + threads, x.order(thread, thread - 1) ? 1 : 0, thread < threads ? 1 : 0);
-                }
+                boolean runs = thread < threads;
+                due.same("soloLength(" + thread + ") of " + threads, x.soloLength(thread), runs ? lengths[thread] : -1);
+                due.same("edge of " + thread + " of " + threads, x.order(thread, thread - 1) ? 1 : 0, runs && thread > 0 ? 1 : 0);
             }
         }
     }
@@ -111,7 +112,7 @@ public final class Boundary04Test {
                 due.same("holdCount(" + lock + ")", x.holdCount(lock), 0);
             }
             for (int thread = 0; thread < 3; thread++) {
-                due.same("frame of " + thread, x.frameProc(thread) + ":" + x.framePc(thread), thread + ":0");
+                due.same("frame of " + thread, Programs.frame(x, thread), thread + ":0");
             }
             due.same("first steps", Programs.steps(x, "12"), "00");
             due.same("a count that starts at 1", x.holdCount(0), 1);

@@ -73,7 +73,7 @@ public final class Boundary05Test {
                 for (int thread = 0; thread < 4; thread++) {
                     int proc = thread < threads ? want[thread] : -1;
                     due.same("frame of " + thread + " of " + threads + " after " + schedule,
-                        x.frameProc(thread) + ":" + x.framePc(thread), proc + ":" + (proc < 0 ? -1 : 0));
+                        Programs.frame(x, thread), proc + ":" + (proc < 0 ? -1 : 0));
                 }
             }
         }

@@ -142,7 +142,7 @@ public final class Boundary06Test {
         int[] counts = {0, 0, 1, 2, 1, 1};
         for (int i = 0; i < frames.length; i++) {
             x.step(0);
-            due.same("frame after step " + i, x.frameProc(0) + ":" + x.framePc(0), frames[i]);
+            due.same("frame after step " + i, Programs.frame(x, 0), frames[i]);
             due.same("holdCount(0) after step " + i, x.holdCount(0), counts[i]);
         }
     }
@@ -160,7 +160,7 @@ public final class Boundary06Test {
         StringBuilder s = new StringBuilder();
         for (int lock = 0; lock < 8; lock++) {
             if (lock != but) {
-                s.append(x.holder(lock)).append('x').append(x.holdCount(lock)).append(' ');
+                s.append(Programs.held(x, lock)).append(' ');
             }
         }
         return s.toString();
@@ -193,7 +193,7 @@ public final class Boundary06Test {
     private static String walk(LockLevelTypes x, int thread) {
         StringBuilder s = new StringBuilder();
         for (int i = 0; i < 12; i++) {
-            s.append(x.frameProc(thread)).append(':').append(x.framePc(thread)).append(' ').append(x.step(thread)).append(' ');
+            s.append(Programs.frame(x, thread)).append(' ').append(x.step(thread)).append(' ');
         }
         return s.toString();
     }
@@ -226,7 +226,7 @@ public final class Boundary06Test {
                     Programs.loadLong(x);
                 }
                 due.same("check", x.check(), verdict);
-                String seen = Programs.steps(x, schedule) + " " + x.holder(0) + "x" + x.holdCount(0) + " " + x.framePc(0) + " " + x.framePc(1);
+                String seen = Programs.steps(x, schedule) + " " + Programs.held(x, 0) + " " + x.framePc(0) + " " + x.framePc(1);
                 first = first == null ? seen : first;
                 due.same("steps under " + verdict, seen, first);
             }

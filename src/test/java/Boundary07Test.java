@@ -145,7 +145,7 @@ public final class Boundary07Test {
     private static void performsTheStep(Due due) {
         LockLevelTypes x = Programs.sealed(2, 2, "A0 C2 R0", "A0 N", "A1 R1");
         due.same("run(0, 2)", x.run(0, 2), 2);
-        due.same("frame in the call", x.frameProc(0) + ":" + x.framePc(0), "2:0");
+        due.same("frame in the call", Programs.frame(x, 0), "2:0");
         due.same("holder(0)", x.holder(0), 0);
         due.same("run of the blocked thread", x.run(0x55555555, 1024), 0);
         due.same("run(0, 1)", x.run(0, 1), 1);

@@ -11,7 +11,8 @@ public final class Boundary09Test {
         s.says("and `lock` is in 0..lockCount-1", Boundary09Test::firstAndLastLock);
         s.says("Otherwise it answers -1", Boundary09Test::outOfRange);
         s.says("also before sealing", Boundary09Test::beforeSealing);
-        s.says("When the verdict is `ACCEPT`, every pair a, b with `order(a, b)` true has `level(a) < level(b)`", Boundary09Test::levelsRise);
+        s.says("When the verdict is `ACCEPT`, every pair a, b with `order(a, b)` true has `level(a) < level(b)`",
+            Boundary09Test::levelsRise);
         s.says("It changes nothing", due -> States.askingChangesNothing(due, LockLevelTypes::level));
     }
 

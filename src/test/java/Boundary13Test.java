@@ -16,10 +16,6 @@ public final class Boundary13Test {
         s.says("Neither changes anything", due -> States.askingChangesNothing(due, LockLevelTypes::framePc));
     }
 
-    private static String frame(LockLevelTypes x, int thread) {
-        return x.frameProc(thread) + ":" + x.framePc(thread);
-    }
-
     private static void topFrame(Due due) {
         for (int thread = 0; thread < 4; thread++) {
             LockLevelTypes x = Programs.make(2, 4, "C1 N", "C2", "C3", "C4 N", "C5", "C6", "C7", "N N");
@@ -27,7 +23,7 @@ public final class Boundary13Test {
             x.check();
             String[] frames = {"0:0", "1:0", "2:0", "3:0", "4:0", "5:0", "6:0", "7:0", "7:1", "3:1", "0:1", "-1:-1"};
             for (String want : frames) {
-                due.same("top frame of " + thread, frame(x, thread), want);
+                due.same("top frame of " + thread, Programs.frame(x, thread), want);
                 x.step(thread);
             }
         }
@@ -40,10 +36,10 @@ public final class Boundary13Test {
             x.setEntry(0, proc);
             x.check();
             for (int pc = 0; pc <= 7; pc++) {
-                due.same("frame", frame(x, 0), proc + ":" + pc);
+                due.same("frame", Programs.frame(x, 0), proc + ":" + pc);
                 x.step(0);
             }
-            due.same("frame at the end", frame(x, 0), "-1:-1");
+            due.same("frame at the end", Programs.frame(x, 0), "-1:-1");
         }
     }
 
@@ -56,7 +52,7 @@ public final class Boundary13Test {
             x.check();
             int steps = 0;
             while (steps < 100 && x.frameProc(0) >= 0) {
-                due.yes("a valid pc in " + frame(x, 0), x.framePc(0) >= 0 && x.framePc(0) < lengths[x.frameProc(0)]);
+                due.yes("a valid pc in " + Programs.frame(x, 0), x.framePc(0) >= 0 && x.framePc(0) < lengths[x.frameProc(0)]);
                 due.same("step", x.step(0), LockLevelTypes.STEP_OK);
                 steps++;
             }
@@ -66,18 +62,18 @@ public final class Boundary13Test {
 
     private static void done(Due due) {
         LockLevelTypes x = Programs.sealed(2, 4, "", "N", "A0", "C5 C6", "", "", "");
-        due.same("an empty entry", frame(x, 0), "-1:-1");
+        due.same("an empty entry", Programs.frame(x, 0), "-1:-1");
         String[] before = {"", "1:0", "2:0", "3:0"};
         for (int thread = 1; thread < 4; thread++) {
-            due.same("before the steps of " + thread, frame(x, thread), before[thread]);
+            due.same("before the steps of " + thread, Programs.frame(x, thread), before[thread]);
             Programs.steps(x, thread == 3 ? "33" : "" + thread);
-            due.same("after the steps of " + thread, frame(x, thread), "-1:-1");
+            due.same("after the steps of " + thread, Programs.frame(x, thread), "-1:-1");
             x.step(thread);
-            due.same("after a step too many of " + thread, frame(x, thread), "-1:-1");
+            due.same("after a step too many of " + thread, Programs.frame(x, thread), "-1:-1");
         }
         LockLevelTypes blocked = Programs.sealed(2, 2, "A0", "A0");
         Programs.steps(blocked, "011");
-        due.same("a blocked thread is not done", frame(blocked, 1), "1:0");
+        due.same("a blocked thread is not done", Programs.frame(blocked, 1), "1:0");
     }
 
     private static void outOfRange(Due due) {
@@ -85,7 +81,7 @@ public final class Boundary13Test {
             LockLevelTypes x = Programs.sealed(2, threads, "N N", "N N", "N N", "N N", "N N");
             for (int thread : Programs.NUMBERS) {
                 boolean inside = thread >= 0 && thread <= threads - 1;
-                due.same("frame of " + thread + " of " + threads, frame(x, thread), inside ? thread + ":0" : "-1:-1");
+                due.same("frame of " + thread + " of " + threads, Programs.frame(x, thread), inside ? thread + ":0" : "-1:-1");
             }
         }
     }

@@ -17,14 +17,18 @@ public final class Boundary14Test {
         s.says("when `thread` is out of range", Boundary14Test::outOfRange);
         s.says("or before sealing", due -> States.answersAlways(due, States.notSealed(), LockLevelTypes::waitsFor, -1));
         s.says("`deadlocked()` answers true iff the waits-for relation of the machine has a cycle", Boundary14Test::cyclesOnly);
-        s.says("`deadlocked()` answers true iff the waits-for relation of the machine has a cycle", Boundary14Test::waitsBesideACycle);
+        s.says("`deadlocked()` answers true iff the waits-for relation of the machine has a cycle",
+            Boundary14Test::waitsBesideACycle);
         s.says("`deadlocked()` answers true iff the waits-for relation of the machine has a cycle", Boundary14Test::noCycle);
         s.says("false before sealing", Boundary14Test::notDeadlockedBeforeSealing);
         s.says("Neither changes anything", due -> States.askingChangesNothing(due, LockLevelTypes::waitsFor));
         s.says("Neither changes anything", due -> States.askingChangesNothing(due, (x, n) -> x.deadlocked() ? 1 : 0));
-        s.says("Once `check()` has answered `ACCEPT`, at every later point `deadlocked()` answers false", Boundary14Test::acceptedNeverDeadlocks);
-        s.says("no thread t has a chain `waitsFor(t)`, `waitsFor(waitsFor(t))`, ... that returns to t", Boundary14Test::acceptedChainsEnd);
-        s.says("whatever `step`, `run` and `restart` calls follow, with any arguments", Boundary14Test::acceptedUnderAnyArguments);
+        s.says("Once `check()` has answered `ACCEPT`, at every later point `deadlocked()` answers false",
+            Boundary14Test::acceptedNeverDeadlocks);
+        s.says("no thread t has a chain `waitsFor(t)`, `waitsFor(waitsFor(t))`, ... that returns to t",
+            Boundary14Test::acceptedChainsEnd);
+        s.says("whatever `step`, `run` and `restart` calls follow, with any arguments",
+            Boundary14Test::acceptedUnderAnyArguments);
     }
 
     private static void waits(Due due, String what, LockLevelTypes x, boolean deadlocked, int... want) {

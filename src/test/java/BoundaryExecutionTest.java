@@ -10,7 +10,8 @@ public final class BoundaryExecutionTest {
         s.says("To START a thread: push frame (entry, 0)", BoundaryExecutionTest::startsAtZero);
         s.says("then SETTLE", BoundaryExecutionTest::settlesAtTheStart);
         s.says("SETTLE: while the stack is not empty", BoundaryExecutionTest::settlesToTheEmptyStack);
-        s.says("the top frame's pc equals the number of instructions of its procedure, pop it", BoundaryExecutionTest::settlesNoFurther);
+        s.says("the top frame's pc equals the number of instructions of its procedure, pop it",
+            BoundaryExecutionTest::settlesNoFurther);
         s.says("A thread whose stack is empty is DONE", BoundaryExecutionTest::emptyStackIsDone);
         s.says("Otherwise its CURRENT instruction is the one at the top frame's pc", BoundaryExecutionTest::currentInstruction);
         s.says("NOP: pc of the top frame += 1", BoundaryExecutionTest::nopMovesOn);
@@ -27,11 +28,11 @@ public final class BoundaryExecutionTest {
     }
 
     private static void frame(Due due, String what, LockLevelTypes x, int thread, String want) {
-        due.same(what, x.frameProc(thread) + ":" + x.framePc(thread), want);
+        due.same(what, Programs.frame(x, thread), want);
     }
 
     private static void lock(Due due, String what, LockLevelTypes x, int lock, String want) {
-        due.same(what, x.holder(lock) + "x" + x.holdCount(lock), want);
+        due.same(what, Programs.held(x, lock), want);
     }
 
     private static int stepsToTheEnd(LockLevelTypes x, int thread) {
@@ -232,7 +233,9 @@ public final class BoundaryExecutionTest {
 
     private static void calls(Due due) {
         LockLevelTypes x = Programs.sealed(2, 1, "C7 N C7 N N N N C7", "", "", "", "", "", "", "N N");
-        String[] frames = {"0:0", "7:0", "7:1", "0:1", "0:2", "7:0", "7:1", "0:3", "0:4", "0:5", "0:6", "0:7", "7:0", "7:1", "-1:-1"};
+        String[] frames = {
+            "0:0", "7:0", "7:1", "0:1", "0:2", "7:0", "7:1", "0:3", "0:4", "0:5", "0:6", "0:7", "7:0", "7:1", "-1:-1"
+        };
         for (int i = 0; i < frames.length; i++) {
             frame(due, "after " + i + " steps", x, 0, frames[i]);
             due.same("step " + i, x.step(0), i < frames.length - 1 ? LockLevelTypes.STEP_OK : LockLevelTypes.STEP_DONE);

@@ -57,7 +57,7 @@ public final class BoundaryMachineTest {
             x.check();
             String[] want = {"7:0", "1:0", "-1:-1", "3:0"};
             for (int thread = 0; thread < 4; thread++) {
-                String frame = x.frameProc(thread) + ":" + x.framePc(thread);
+                String frame = Programs.frame(x, thread);
                 due.same("frame of " + thread + " of " + threads, frame, thread < threads ? want[thread] : "-1:-1");
             }
         }

@@ -9,9 +9,11 @@ public final class BoundarySoloTest {
         s.says("t is started alone with all locks free", BoundarySoloTest::locksFreeAtTheStart);
         s.says("executed one by one until it is done or 513 instructions have executed", BoundarySoloTest::cutAt513);
         s.says("soloLength(t) is that count", BoundarySoloTest::lengths);
-        s.says("each ACQ b executed while b is not held by the running thread adds the ORDER EDGE a->b", BoundarySoloTest::edgeAtAFreeLock);
+        s.says("each ACQ b executed while b is not held by the running thread adds the ORDER EDGE a->b",
+            BoundarySoloTest::edgeAtAFreeLock);
         s.says("for every lock a the running thread then holds (hold count > 0)", BoundarySoloTest::edgeFromEveryLockHeld);
-        s.says("Instructions of called procedures count and contribute edges like any others", BoundarySoloTest::calledProcedures);
+        s.says("Instructions of called procedures count and contribute edges like any others",
+            BoundarySoloTest::calledProcedures);
         s.says("A reentrant ACQ (b already held) adds no edge", BoundarySoloTest::reentrant);
         s.says("The order graph is the union of the edges over all threads", BoundarySoloTest::union);
         s.says("The verdict is decided by these tests, in this order", BoundarySoloTest::longBeforeCycle);

@@ -89,7 +89,7 @@ public final class BoundaryWhatTest {
         Programs.steps(x, "001");
         for (int i = 0; i < 2; i++) {
             due.same("steps at a NOP", Programs.steps(x, "01"), "00");
-            due.same("locks after a NOP", x.holder(0) + "x" + x.holdCount(0) + " " + x.holder(1) + "x" + x.holdCount(1), "0x2 1x1");
+            due.same("locks after a NOP", Programs.held(x, 0) + " " + Programs.held(x, 1), "0x2 1x1");
         }
         due.same("edges of NOPs", Programs.edges(x), "");
         due.same("both are done", x.frameProc(0) + x.frameProc(1), -2);
@@ -230,7 +230,8 @@ public final class BoundaryWhatTest {
 
     private static void stepsUnderEveryVerdict(Due due) {
         LockLevelTypes[] objects = {
-            Programs.make(2, 2, "A0 R0", "A0"), Programs.make(2, 2, "A0 R0", "A0 A1 R0 A0"), Programs.makeLong(2, 2, "A0 R0", "A0 N C5")
+            Programs.make(2, 2, "A0 R0", "A0"), Programs.make(2, 2, "A0 R0", "A0 A1 R0 A0"),
+            Programs.makeLong(2, 2, "A0 R0", "A0 N C5")
         };
         for (int verdict = 0; verdict < objects.length; verdict++) {
             LockLevelTypes x = objects[verdict];

@@ -62,14 +62,24 @@ final class Programs {
         return answers.toString();
     }
 
+    /** The holder of a lock and its count, as in 0x2. */
+    static String held(LockLevelTypes x, int lock) {
+        return x.holder(lock) + "x" + x.holdCount(lock);
+    }
+
+    /** The top frame of a thread, as in 7:0. */
+    static String frame(LockLevelTypes x, int thread) {
+        return x.frameProc(thread) + ":" + x.framePc(thread);
+    }
+
     /** The machine: holder and count of every lock, top frame and wait of every thread. */
     static String machine(LockLevelTypes x) {
         StringBuilder s = new StringBuilder();
         for (int i = -1; i <= 8; i++) {
-            s.append(x.holder(i)).append('x').append(x.holdCount(i)).append(' ');
+            s.append(held(x, i)).append(' ');
         }
         for (int i = -1; i <= 4; i++) {
-            s.append(x.frameProc(i)).append(':').append(x.framePc(i)).append('>').append(x.waitsFor(i)).append(' ');
+            s.append(frame(x, i)).append('>').append(x.waitsFor(i)).append(' ');
         }
         return s.append(x.deadlocked()).toString();
     }
