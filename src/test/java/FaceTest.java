@@ -1,7 +1,11 @@
+import java.io.IOException;
 import java.lang.reflect.Constructor;
 import java.lang.reflect.Field;
 import java.lang.reflect.Method;
 import java.lang.reflect.Modifier;
+import java.nio.file.Files;
+import java.nio.file.Path;
+import java.util.List;
 import java.util.Map;
 import java.util.TreeMap;
 import java.util.TreeSet;
@@ -10,9 +14,10 @@ import java.util.TreeSet;
 public final class FaceTest {
     private static final Due due = new Due();
 
-    public static void main(String[] args) throws IllegalAccessException {
+    public static void main(String[] args) throws IllegalAccessException, IOException {
         constants();
         methods();
+        heads();
         due.end();
     }
 
@@ -52,5 +57,17 @@ public final class FaceTest {
             due.same("constructor", constructor.toGenericString(), "public LockLevelTypes(int,int)");
         }
         due.same("class", Modifier.toString(LockLevelTypes.class.getModifiers()), "public final");
+    }
+
+    /** The public lines of the source are those of the document, in its order and with its names. */
+    private static void heads() throws IOException {
+        List<String> want = publicLines(Path.of("../shared/DOC.md"));
+        List<String> got = publicLines(Path.of("src/main/java/LockLevelTypes.java"));
+        due.same("public lines", String.join("\n", got), String.join("\n", want));
+    }
+
+    private static List<String> publicLines(Path file) throws IOException {
+        return Files.readAllLines(file).stream().map(String::strip).filter(line -> line.startsWith("public "))
+            .map(line -> line.replaceFirst(" \\{$", "")).toList();
     }
 }

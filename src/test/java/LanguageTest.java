@@ -22,6 +22,10 @@ public final class LanguageTest {
         Tree.Kind.LAMBDA_EXPRESSION, Tree.Kind.MEMBER_REFERENCE, Tree.Kind.NULL_LITERAL, Tree.Kind.STRING_LITERAL,
         Tree.Kind.FLOAT_LITERAL, Tree.Kind.DOUBLE_LITERAL, Tree.Kind.NEW_CLASS, Tree.Kind.MEMBER_SELECT,
         Tree.Kind.ENHANCED_FOR_LOOP, Tree.Kind.IMPORT, Tree.Kind.PACKAGE, Tree.Kind.ANNOTATION);
+    private static final Set<Tree.Kind> CONSTANT_PARTS = Set.of(
+        Tree.Kind.INT_LITERAL, Tree.Kind.IDENTIFIER, Tree.Kind.UNARY_MINUS, Tree.Kind.PLUS, Tree.Kind.MINUS, Tree.Kind.MULTIPLY);
+    private static final Set<Tree.Kind> COMPARISONS = Set.of(
+        Tree.Kind.LESS_THAN, Tree.Kind.LESS_THAN_EQUAL, Tree.Kind.GREATER_THAN, Tree.Kind.GREATER_THAN_EQUAL);
     private static final Set<String> NUMBER_TYPES = Set.of("int", "long", "short", "byte", "char", "boolean");
 
     private static final Due due = new Due();
@@ -77,7 +81,8 @@ public final class LanguageTest {
         Set<Modifier> flags = field.getModifiers().getFlags();
         if (flags.contains(Modifier.STATIC)) {
             due.yes("rule 5: " + field.getName() + " is a constant",
-                flags.contains(Modifier.FINAL) && List.of("int", "long").contains(field.getType().toString()));
+                flags.contains(Modifier.FINAL) && List.of("int", "long").contains(field.getType().toString())
+                && onlyOf(CONSTANT_PARTS, field.getInitializer()));
             return false;
         }
         due.yes("rule 1: " + field.getName() + " is private", flags.contains(Modifier.PRIVATE));
@@ -91,6 +96,9 @@ public final class LanguageTest {
     private static void method(MethodTree method) {
         String name = method.getName().toString();
         due.yes("rule 10: parameters of " + name, method.getParameters().size() <= 7);
+        Tree answer = method.getReturnType();
+        due.yes("rules 2 and 4: answer of " + name, answer == null
+            || answer.toString().equals("void") || NUMBER_TYPES.contains(answer.toString()));
         Set<String> called = calls.computeIfAbsent(name, key -> new TreeSet<>());
         method.accept(new TreeScanner<Void, Boolean>() {
             @Override
@@ -107,6 +115,24 @@ public final class LanguageTest {
                 return null;
             }
         }, false);
+    }
+
+    private static boolean onlyOf(Set<Tree.Kind> kinds, Tree tree) {
+        return kinds(tree).stream().allMatch(kinds::contains);
+    }
+
+    private static Set<Tree.Kind> kinds(Tree tree) {
+        Set<Tree.Kind> kinds = new HashSet<>();
+        new TreeScanner<Void, Void>() {
+            @Override
+            public Void scan(Tree part, Void none) {
+                if (part != null) {
+                    kinds.add(part.getKind());
+                }
+                return super.scan(part, none);
+            }
+        }.scan(tree, null);
+        return kinds;
     }
 
     private static int depth(String name, Set<String> above) {
@@ -144,6 +170,28 @@ public final class LanguageTest {
             due.yes("rule 4: length of " + made, plain
                 && (made.getDimensions().get(0) instanceof LiteralTree || made.getDimensions().get(0) instanceof IdentifierTree));
             return super.visitNewArray(made, none);
+        }
+
+        @Override
+        public Void visitForLoop(ForLoopTree loop, Void none) {
+            counts(loop.getCondition());
+            return super.visitForLoop(loop, none);
+        }
+
+        @Override
+        public Void visitWhileLoop(WhileLoopTree loop, Void none) {
+            counts(loop.getCondition());
+            return super.visitWhileLoop(loop, none);
+        }
+
+        @Override
+        public Void visitDoWhileLoop(DoWhileLoopTree loop, Void none) {
+            counts(loop.getCondition());
+            return super.visitDoWhileLoop(loop, none);
+        }
+
+        private static void counts(Tree condition) {
+            due.yes("rule 8: a bound in " + condition, kinds(condition).stream().anyMatch(COMPARISONS::contains));
         }
 
         @Override
